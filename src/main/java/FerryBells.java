@@ -769,7 +769,8 @@ public final class FerryBells {
     boolean twoBoats = false;
     final int[] standing = new int[MOST_LANDINGS];
     final int[] who = new int[MOST_LANDINGS * MOST_STANDING];
-    final int[] since = new int[MOST_LANDINGS * MOST_STANDING];
+    /** How many MINUTES are over when who STANDS there has WALKED, so that no MINUTE need count for all. */
+    final int[] until = new int[MOST_LANDINGS * MOST_STANDING];
     int waited = 0;
     int walked = 0;
     int earned = 0;
@@ -792,7 +793,7 @@ public final class FerryBells {
       twoBoats = other.twoBoats;
       copyAll(other.standing, standing);
       copyAll(other.who, who);
-      copyAll(other.since, since);
+      copyAll(other.until, until);
       waited = other.waited;
       walked = other.walked;
       earned = other.earned;
@@ -885,7 +886,8 @@ public final class FerryBells {
     }
 
     int sinceStands(int landing, int i) {
-      return at(since, landing * MOST_STANDING + i);
+      int waits = ofSort(whoStands(landing, i), WAITS);
+      return minute + waits - at(until, landing * MOST_STANDING + i);
     }
 
     int gain() {
@@ -994,7 +996,7 @@ public final class FerryBells {
         return;
       }
       change(who, landing * MOST_STANDING + n, sort);
-      change(since, landing * MOST_STANDING + n, 0);
+      change(until, landing * MOST_STANDING + n, minute + ofSort(sort, WAITS));
       change(standing, landing, n + 1);
     }
 
@@ -1033,7 +1035,7 @@ public final class FerryBells {
       }
       for (int i = boarding; i < n; i++) {
         change(who, start + i - boarding, at(who, start + i));
-        change(since, start + i - boarding, at(since, start + i));
+        change(until, start + i - boarding, at(until, start + i));
       }
       change(standing, boat.place, n - boarding);
     }
@@ -1067,11 +1069,12 @@ public final class FerryBells {
       int start = landing * MOST_STANDING;
       int staying = 0;
       for (int i = start; i < start + n; i++) {
-        int sort = at(who, i);
-        int stood = at(since, i) + 1;
-        if (stood < ofSort(sort, WAITS)) {
-          change(who, start + staying, sort);
-          change(since, start + staying, stood);
+        int end = at(until, i);
+        if (end > minute + 1) {
+          if (start + staying < i) {
+            change(who, start + staying, at(who, i));
+            change(until, start + staying, end);
+          }
           staying++;
         }
       }
@@ -1117,12 +1120,10 @@ public final class FerryBells {
       super(figure);
     }
 
-    @Override
     int kind() {
       return 1;
     }
 
-    @Override
     int choose(World world, Boat boat) {
       int beat = figure + 1;
       return beat > 0 && world.minute % beat == 0 ? heading(world, boat) : NONE;
@@ -1132,7 +1133,6 @@ public final class FerryBells {
       return boat.place + 1 < world.landings ? boat.place + 1 : 0;
     }
 
-    @Override
     int cost() {
       return super.cost() + figure;
     }
@@ -1143,12 +1143,10 @@ public final class FerryBells {
       super(figure);
     }
 
-    @Override
     int kind() {
       return 2;
     }
 
-    @Override
     int choose(World world, Boat boat) {
       return boat.taken > 0 ? super.choose(world, boat) : calling(world, boat);
     }
@@ -1167,7 +1165,6 @@ public final class FerryBells {
       return place;
     }
 
-    @Override
     int cost() {
       return 2 * super.cost();
     }
@@ -1178,12 +1175,10 @@ public final class FerryBells {
       super(figure);
     }
 
-    @Override
     int kind() {
       return 3;
     }
 
-    @Override
     int calling(World world, Boat boat) {
       int place = NONE;
       int most = figure;
@@ -1196,12 +1191,10 @@ public final class FerryBells {
       return place;
     }
 
-    @Override
     int cost() {
       return super.cost() + 1;
     }
 
-    @Override
     void fail() {
       throw new UnsupportedOperationException("a busy one's failure");
     }
@@ -1212,24 +1205,20 @@ public final class FerryBells {
       super(figure);
     }
 
-    @Override
     int kind() {
       return 4;
     }
 
-    @Override
     int choose(World world, Boat boat) {
       boolean goes = boat.taken > figure || boat.taken >= world.seats
           || !world.canComeTo(boat.place);
       return goes ? super.choose(world, boat) : NONE;
     }
 
-    @Override
     int cost() {
       return super.cost() - figure;
     }
 
-    @Override
     boolean canFail() {
       return false;
     }
@@ -1240,12 +1229,10 @@ public final class FerryBells {
       super(figure);
     }
 
-    @Override
     int kind() {
       return 5;
     }
 
-    @Override
     int choose(World world, Boat boat) {
       if (boat.taken == 0) {
         return super.choose(world, boat);
@@ -1272,7 +1259,6 @@ public final class FerryBells {
       return n;
     }
 
-    @Override
     int cost() {
       return super.cost() + figure;
     }
@@ -1283,23 +1269,19 @@ public final class FerryBells {
       super(figure);
     }
 
-    @Override
     int kind() {
       return 6;
     }
 
     /** A BOAT that is AT this LANDING stays, as it does for every heading that is here. */
-    @Override
     int heading(World world, Boat boat) {
       return world.landings > 0 ? figure % world.landings : NONE;
     }
 
-    @Override
     int cost() {
       return super.cost() / 2;
     }
 
-    @Override
     void fail() {
       throw new IllegalArgumentException("a told one's failure");
     }
