@@ -839,7 +839,8 @@ public final class FerryBells {
     }
 
     int ofSort(int sort, int what) {
-      return at(sortRows, sort * WHATS + what);
+      int i = sort * WHATS + what;
+      return i >= 0 && i < sortRows.length ? sortRows[i] : 0;
     }
 
     int sortsFrom(int landing) {
@@ -870,7 +871,7 @@ public final class FerryBells {
     }
 
     int standingAt(int landing) {
-      return at(standing, landing);
+      return landing >= 0 && landing < standing.length ? standing[landing] : 0;
     }
 
     int standingInAll() {
@@ -886,8 +887,8 @@ public final class FerryBells {
     }
 
     int sinceStands(int landing, int i) {
-      int waits = ofSort(whoStands(landing, i), WAITS);
-      return minute + waits - at(until, landing * MOST_STANDING + i);
+      int index = landing * MOST_STANDING + i;
+      return minute + ofSort(at(who, index), WAITS) - at(until, index);
     }
 
     int gain() {
@@ -1235,7 +1236,7 @@ public final class FerryBells {
 
     int choose(World world, Boat boat) {
       if (boat.taken == 0) {
-        return super.choose(world, boat);
+        return calling(world, boat);
       }
       int place = NONE;
       int most = 0;

@@ -276,6 +276,11 @@ public final class FerryBellsPromises {
     x.comes(0, 0);
     x.go(1);
     due("FULL, nobody left to come", x.boat(1), 1);
+    x = ruled(STEADY, 4, 9);
+    x.go(1);
+    x.comes(0, 1);
+    x.go(1);
+    due("FULL, one may come yet", x.boat(1), -4);
     goes("RULE's first", "s01 100 9 1;s02 100 9 1;s02 100 9 1;", 0, 0, 1, 1);
     goes("BEST's most", "s01 100 9 1;s02 100 9 1;s02 100 9 1;", 5, 0, 1, 2);
     goes("RULE's first of two", "s02 100 9 1;s01 100 9 1;", 0, 0, 1, 2);
@@ -381,6 +386,8 @@ public final class FerryBellsPromises {
     due("16", x.best(1, 9, 6, 2, 1), 1);
     write(x, 1, 0, 4, 0);
     due("16 the first place", x.best(1, 9, 6, 2, 1), 0);
+    write(x, 1, 0, 3);
+    due("16 one kind", x.best(1, 9, 6, 2, 1), 0);
     write(x, 1, 0, 0, 4, 4);
     due("16 of several the first", x.best(1, 9, 6, 2, 1), 1);
     due("16 figure", x.best(1, 10, 6, 1, 1), -1);
@@ -418,6 +425,10 @@ public final class FerryBellsPromises {
     y.comes(1, 0);
     due("18 one", y.enough(0, 0, 1, 1), 1);
     due("18 seats stay", y.count(2), 3);
+    y = with("s01 100 1 0;s01 100 1 0;");
+    y.keep(0, 1, 4, 9);
+    due("18 six", y.enough(0, 0, 3, 1), 6);
+    due("18 seven were wanted", y.enough(0, 0, 4, 1), -4);
 
     due("19", x.lantern(0, 0, 6, 1, 1), 1);
     due("19 by 0", x.lantern(0, 0, 6, 1, 0), 0);
@@ -584,9 +595,10 @@ public final class FerryBellsPromises {
     due("30 still nothing", x.put(0, 0, 0), -11);
     due("30", x.row(0, 2, 100), 0);
     due("30 is 0", x.element(0, 99), 0);
+    x.put(0, 0, 7);
     x.put(0, 99, 7);
     due("30 anew", x.row(0, 2, 100), 0);
-    due("30 is 0 anew", x.element(0, 99), 0);
+    due("30 is 0 anew", x.element(0, 99) + x.element(0, 0), 0);
 
     due("31", x.put(0, 99, -2147483648), 0);
     due("32 ints", x.element(0, 99), -2147483648L);
