@@ -710,7 +710,7 @@ public final class FerryBells {
     }
 
     int leastNumber() {
-      return sort == BYTES ? -128 : sort == SHORTS ? -32768 : Integer.MIN_VALUE;
+      return sort == BYTES ? -128 : sort == SHORTS ? -32768 : -2147483648;
     }
   }
 
@@ -976,7 +976,7 @@ public final class FerryBells {
     void bring() {
       for (int sort = 0; sort < sorts; sort++) {
         z = z * 1103515245 + 12345;
-        if ((z & Integer.MAX_VALUE) / 65536 % 100 < ofSort(sort, COMES)) {
+        if ((z & 0x7fffffff) / 65536 % 100 < ofSort(sort, COMES)) {
           come(sort, ofSort(sort, FROM));
         }
       }

@@ -850,9 +850,17 @@ public final class FerryBellsAgainstModel {
     return b.toString();
   }
 
-  static int wrong = 0;
+  static final int MOST_CALLS = 512;
 
+  static int wrong = 0;
+  static int calls = 0;
+
+  /** What calls behind the last one that is promised answer is free. */
   static void both(FerryBells x, Model m, long seed, String name, int[] a) {
+    if (calls >= MOST_CALLS) {
+      return;
+    }
+    calls++;
     long got = ask(x, name, a);
     long due = m.call(name, a);
     if (got != due) {
@@ -901,10 +909,11 @@ public final class FerryBellsAgainstModel {
     Random r = new Random(seed);
     FerryBells x = new FerryBells();
     Model m = new Model();
+    calls = 0;
     for (int i = r.nextInt(4); i >= 0; i--) {
       readText(x, m, seed, r);
     }
-    for (int i = 0; i < 150 && wrong < 20; i++) {
+    while (calls < MOST_CALLS - 110 && wrong < 20) {
       if (r.nextInt(12) == 0) {
         readText(x, m, seed, r);
         continue;
@@ -915,7 +924,7 @@ public final class FerryBellsAgainstModel {
         a[k] = argument(r, call[1].charAt(k));
       }
       both(x, m, seed, call[0], a);
-      if (r.nextInt(20) == 0) {
+      if (r.nextInt(100) == 0) {
         lookAround(x, m, seed);
       }
     }

@@ -473,11 +473,13 @@ public final class FerryBellsPromises {
     for (int minutes = 1; minutes < 40; minutes += 6) {
       FerryBells y = with("n4;s01 50 5 10;s10 40 4 7;s32 30 9 20;");
       y.go(5);
-      int best = 0;
-      for (int told = 1; told < 625; told++) {
-        best = y.goings(told, minutes) > y.goings(best, minutes) ? told : best;
+      int best = y.bestGoings(minutes);
+      int most = y.goings(best, minutes);
+      for (int told = 0; told < 625; told += 2) {
+        int gain = y.goings(told, minutes);
+        due("23 in " + minutes + " not " + told,
+            gain > most || gain == most && told < best ? told : best, best);
       }
-      due("23 in " + minutes, y.bestGoings(minutes), best);
     }
     due("23 of several the least", new FerryBells().bestGoings(120), 0);
     due("23 none", x.bestGoings(0), -1);
