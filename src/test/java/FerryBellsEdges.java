@@ -1471,6 +1471,11 @@ public final class FerryBellsEdges {
       x.comes(1, 99);
       due("above", x.nobody(1, 4, 0), 1);
       due("below", x.nobody(1, 4, 1), 10000000000000000L);
+      FerryBells y = with("s01 99 1 1;s02 99 1 1;s21 1 1 1;");
+      due("from 0, above", y.nobody(0, 4, 0), 1);
+      due("from 0, below", y.nobody(0, 4, 1), 10000000000000000L);
+      due("from 2, above", y.nobody(2, 4, 0), 96059601);
+      due("from 2, below", y.nobody(2, 4, 1), 100000000);
       x.comes(0, 36);
       x.comes(1, 84);
       due("1024 three times, less twelve 2", x.nobody(1, 3, 0), 1 << 18);
@@ -1624,7 +1629,10 @@ public final class FerryBellsEdges {
           due("at first " + i, x.element(0, i), 0);
         }
         due("put 99", x.put(0, 99, 1), 0);
+        due("put 0", x.put(0, 0, 1), 0);
         due("put 100", x.put(0, 100, 1), -13);
+        due("2 anew", x.row(0, sort, 2), 0);
+        due("0 again", x.element(0, 0), 0);
         due("100 anew", x.row(0, sort, 100), 0);
         due("0 again", x.element(0, 99), 0);
         due("0", x.row(0, sort, 0), 0);

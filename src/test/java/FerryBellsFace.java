@@ -27,7 +27,7 @@ public final class FerryBellsFace {
     "catch (ArrayIndexOutOfBoundsException", "catch (IndexOutOfBoundsException",
     "catch (NullPointerException", "catch (ArithmeticException", "catch (ClassCastException",
     "catch (NegativeArraySizeException", "catch (ArrayStoreException", "hashCode", "toString",
-    "static {", "System.nano", "System.current", "Random",
+    "static {", "Integer.M", "Long.M", "System.nano", "System.current", "Random",
   };
 
   static int wrong = 0;
