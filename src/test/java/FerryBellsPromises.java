@@ -104,9 +104,11 @@ public final class FerryBellsPromises {
       {"n4;m23 2;n3;m23 2;", -2012}, {"n4;s23 1 1 1;n3;", -2013}, {"b6;b5;b9;n9;", -2006},
     };
     for (Object[] f : faults) {
+      x = new FerryBells();
       due("2 " + f[0], read(x, (String) f[0]), (Integer) f[1]);
       due("2 nothing came of " + f[0], x.count(0) * 100 + x.count(1) * 10 + x.count(2), 303);
     }
+    x = new FerryBells();
     due("2 a long one", read(x, "n4;m03 9;s03 100 20 99;s30 0 1 0;b6;"), 5);
     due("2 landings", x.count(0), 4);
     due("2 sorts", x.count(1), 2);
