@@ -294,6 +294,12 @@ public final class FerryBellsSentences {
       x.set(0, 1);
       due("one SEAT", x.day(0, 0, 1, 1, 0), 1);
     });
+    says("WHERE: the LANDING at which to begin: one that there is", () -> {
+      FerryBells x = kept(with("n4;m03 1;m01 9;m02 9;m12 9;s01 100 20 99;"), 1, 0);
+      due("two come, while it comes from 3", x.where(0, 11, 1, 1), 3);
+      due("3 goes away", read(x, "n3;"), 1);
+      due("one comes", x.where(0, 11, 1, 1), 0);
+    });
     says("BEST RULE of a ROW of KINDS with a FIGURE: of each of them", () -> {
       FerryBells x = with("s10 100 9 5;");
       write(x, 1, 0, 0, 3);
